@@ -99,7 +99,8 @@ public final class BellSchool {
         if (!valley.has(c)) {
             return BAD;
         }
-        return noon.timeOf(now, c);
+        noon.gather(now);
+        return noon.times[c];
     }
 
     public int last() {
@@ -490,7 +491,7 @@ public final class BellSchool {
         private final int[] snowTo = new int[PAIRS];
         int homes = 0;
         int bell = 0;
-        int farthest = 60;
+        int farthest = 0;
 
         void clear() {
             homes = 0;
@@ -683,20 +684,22 @@ public final class BellSchool {
         }
 
         int farOn(int day, long shut, int a, int b) {
-            int d = day % ROUND;
-            if (shutThen[d] != shut) {
-                reckonFars(d, shut);
-                shutThen[d] = shut;
-            }
-            int far = fars[d * PAIRS + a * MOST_HOMES + b];
+            int far = fars[readyFars(day, shut) + a * MOST_HOMES + b];
             return far < NO_WAY ? far : NONE;
         }
 
-        private void reckonFars(int d, long shut) {
+        /** Where the fars of a day begin, reckoned anew if they were made by other ways shut. */
+        private int readyFars(int day, long shut) {
+            int d = day % ROUND;
             int base = d * PAIRS;
+            if (shutThen[d] == shut) {
+                return base;
+            }
             for (int a = 0; a < valley.homes; a++) {
                 for (int b = 0; b < valley.homes; b++) {
-                    fars[base + a * MOST_HOMES + b] = straight(a, b, d, shut);
+                    int pair = pairOf(a, b);
+                    int straight = valley.canBeGone(pair, d, shut) ? valley.minutes[pair] : NO_WAY;
+                    fars[base + a * MOST_HOMES + b] = a == b ? 0 : straight;
                 }
             }
             for (int by = 0; by < valley.homes; by++) {
@@ -704,21 +707,12 @@ public final class BellSchool {
                     shortenBy(by, a, base);
                 }
             }
-        }
-
-        private int straight(int a, int b, int d, long shut) {
-            if (a == b) {
-                return 0;
-            }
-            int pair = pairOf(a, b);
-            return valley.canBeGone(pair, d, shut) ? valley.minutes[pair] : NO_WAY;
+            shutThen[d] = shut;
+            return base;
         }
 
         private void shortenBy(int by, int a, int base) {
             int first = fars[base + a * MOST_HOMES + by];
-            if (first >= NO_WAY) {
-                return;
-            }
             for (int b = 0; b < valley.homes; b++) {
                 int whole = first + fars[base + by * MOST_HOMES + b];
                 int place = base + a * MOST_HOMES + b;
@@ -726,7 +720,7 @@ public final class BellSchool {
             }
         }
 
-        int timeOf(Standing s, int c) {
+        private int timeOf(Standing s, int c, int base) {
             if ((s.sick >> c & 1) != 0) {
                 return NONE;
             }
@@ -734,8 +728,8 @@ public final class BellSchool {
             if (c == s.bell) {
                 return keeping;
             }
-            int far = farOn(s.day, s.shut, c, s.bell);
-            if (far == NONE || far > valley.farthest) {
+            int far = fars[base + c * MOST_HOMES + s.bell];
+            if (far > valley.farthest) {
                 return NONE;
             }
             int sleeping = valley.kind[c] == SLEEPER ? SLEEPING : 0;
@@ -753,8 +747,9 @@ public final class BellSchool {
         void gather(Standing s) {
             latest = NONE;
             comers = 0;
+            int base = readyFars(s.day, s.shut);
             for (int c = 0; c < valley.homes; c++) {
-                times[c] = timeOf(s, c);
+                times[c] = timeOf(s, c, base);
                 if (times[c] == NONE) {
                     continue;
                 }
@@ -828,15 +823,30 @@ public final class BellSchool {
             if (known && asked.isLike(now)) {
                 return;
             }
-            asked.copy(now);
-            known = true;
-            homes = noon.homes();
-            numberMissing();
-            findDays(noon);
+            begin(now, noon.homes());
+            int t = 0;
+            while (t < ROUND && !isWholeBy(t)) {
+                spread(noon, t);
+                t++;
+            }
+            days = isWholeBy(t) ? t : NONE;
             if (days != NONE) {
                 findHopeful();
                 findRow();
             }
+        }
+
+        private void begin(Standing now, int many) {
+            known = true;
+            asked.copy(now);
+            dream.copy(now);
+            dream.held = 0;
+            homes = many;
+            numberMissing();
+            for (int i = 0; i < reached.length; i++) {
+                reached[i] = 0L;
+            }
+            reached[now.bell] = 1L;
         }
 
         private void numberMissing() {
@@ -849,24 +859,6 @@ public final class BellSchool {
             whole = (1 << missing) - 1;
         }
 
-        private void findDays(Noon noon) {
-            for (int i = 0; i < reached.length; i++) {
-                reached[i] = 0L;
-            }
-            reached[asked.bell] = 1L;
-            dream.copy(asked);
-            dream.held = 0;
-            days = NONE;
-            for (int t = 0; t <= ROUND && days == NONE; t++) {
-                if (isWholeBy(t)) {
-                    days = t;
-                } else if (t < ROUND) {
-                    dream.day = asked.day + t;
-                    spread(noon, t);
-                }
-            }
-        }
-
         private boolean isWholeBy(int t) {
             for (int h = 0; h < homes; h++) {
                 if ((reached[t * MOST_HOMES + h] >>> whole & 1L) != 0) {
@@ -877,9 +869,10 @@ public final class BellSchool {
         }
 
         private void spread(Noon noon, int t) {
+            dream.day = asked.day + t;
             for (int h = 0; h < homes; h++) {
                 long sets = reached[t * MOST_HOMES + h];
-                if (sets == 0) {
+                if (sets == 0L) {
                     continue;
                 }
                 dream.bell = h;
@@ -928,7 +921,7 @@ public final class BellSchool {
 
         private long hopesFrom(int t, int h) {
             long sets = 0L;
-            if (reached[t * MOST_HOMES + h] == 0) {
+            if (reached[t * MOST_HOMES + h] == 0L) {
                 return sets;
             }
             for (int choice = 0; choice <= homes; choice++) {
