@@ -242,7 +242,7 @@ public final class BellSchool {
     public int tripped() {
         int children = fitsSeen(now.bell, now.held) ? SO_AS_IT_IS : 0;
         for (int c = 0; c < valley.homes; c++) {
-            if (fitsSeen(now.bell, now.held | 1 << c)) {
+            if (fitsSeen(now.bell, now.held | (1 << c))) {
                 children |= 1 << c;
             }
         }
@@ -422,7 +422,7 @@ public final class BellSchool {
             place = 0;
             for (int items = 0; items < text.letters.length && place < text.length; items++) {
                 int start = place;
-                char letter = text.at(start);
+                int letter = text.at(start);
                 if (!readNumbers(text, numbersOf(letter)) || !told(valley, letter)) {
                     return start;
                 }
@@ -430,7 +430,7 @@ public final class BellSchool {
             return NONE;
         }
 
-        private static int numbersOf(char letter) {
+        private static int numbersOf(int letter) {
             switch (letter) {
                 case 'h': return 2;
                 case 'w': return 3;
@@ -469,7 +469,7 @@ public final class BellSchool {
             return letter >= '0' && letter <= '9';
         }
 
-        private boolean told(Valley valley, char letter) {
+        private boolean told(Valley valley, int letter) {
             switch (letter) {
                 case 'h': return valley.addHome(number[0], number[1]);
                 case 'w': return valley.addWay(number[0], number[1], number[2]);
@@ -896,7 +896,7 @@ public final class BellSchool {
                 return sets;
             }
             long holding = HOLDING[number];
-            return sets & holding | (sets & ~holding) << (1 << number);
+            return (sets & holding) | ((sets & ~holding) << (1 << number));
         }
 
         /** All that are one of the sets once a home is put to them. */
@@ -904,8 +904,8 @@ public final class BellSchool {
             if (number < 0 || number >= HOLDING.length) {
                 return sets;
             }
-            long held = sets & HOLDING[number];
-            return held | held >>> (1 << number);
+            long with = sets & HOLDING[number];
+            return with | (with >>> (1 << number));
         }
 
         private void findHopeful() {
