@@ -181,7 +181,7 @@ public final class BellSchool {
             return BAD;
         }
         search.search(noon, now);
-        if (k == 0 || search.days == NONE) {
+        if (k == 0) {
             return search.days;
         }
         return k <= search.days ? search.row[k - 1] : NONE;
