@@ -62,6 +62,7 @@ public final class EdgeTest {
     kept();
     counted();
     aHomeAlone();
+    sevenOnTheLastDay();
     calls512();
     sideBySide();
     System.out.println("edges: " + checked + " answers, " + wrong + " not as due");
@@ -958,6 +959,15 @@ public final class EdgeTest {
       due("nobody on the " + k + "th", last.each(k), NONE);
     }
     due("0 on the 28th", last.each(28), 0);
+    // 4 is cut off until day 27; 6 and 5 are last by themselves, 1, 2 and 3 only if KEPT BACK.
+    BellSchool seven = laid(STAR + "s0,4,0,26;");
+    due("28 days for seven", seven.each(0), 28);
+    for (int k = 1; k <= 24; k++) {
+      due("nobody of seven on the " + k + "th", seven.each(k), NONE);
+    }
+    for (int k = 25; k <= 28; k++) {
+      due("of seven on the " + k + "th", seven.each(k), k - 24);
+    }
     sentence = "18: none";
     due("a home cut off", laid(TWO).each(0), NONE);
     due("a home alone", laid(ONE).each(0), 0);
@@ -1439,6 +1449,39 @@ public final class EdgeTest {
     dueChance(x, 0, 2, 5, 1, 1);
     due("SICK: year", x.year(0, 60, 1), 0);
     due("SICK: pass(1)", x.pass(1), 0);
+  }
+
+  private static void sevenOnTheLastDay() {
+    sentence = "4: 7 homes, 5: day 27, behind which day 0 comes again";
+    BellSchool x = laid(STAR + "s0,6,27,27;");
+    due("each(0): 0, 6, 5, 1, 2, 3, 4", x.each(0), 6);
+    x.pass(27);
+    due("last but one of 6 and 5", x.count(4), 6);
+    due("way(0, 6, 1)", x.way(0, 6, 1), 0);
+    due("far(6, 0)", x.far(6, 0), NONE);
+    due("comes(6)", x.comes(6), 0);
+    due("last()", x.last(), 6);
+    due("behind(1)", x.behind(1), 6);
+    due("behind(2)", x.behind(2), 5);
+    due("again()", x.again(), 1);
+    due("always()", x.always(), 0);
+    due("each(0): a day of snow, 1, 2, 3, 4", x.each(0), 5);
+    due("each(1)", x.each(1), NONE);
+    due("each(2)", x.each(2), 1);
+    due("each(5)", x.each(5), 4);
+    // On day 55 the bell is at 5, and 6 is cut off from it: 4 is last.
+    due("never()", x.never(), 15);
+    x.see(5, 1);
+    due("5 behind 1: from 1, 2, 3, 4 and 0", x.fog(), 31);
+    due("tripped()", x.tripped(), 0);
+    dueChance(x, 6, 1, 9, 1, 1);
+    dueChance(x, 6, 2, 9, 531441, 1000000);
+    BellSchool cut = laid(SEVEN);
+    cut.pass(27);
+    due("always() of seven cut off", cut.always(), 0);
+    due("each(0) of seven cut off", cut.each(0), NONE);
+    due("never() of seven cut off", cut.never(), 126);
+    due("fog() of seven cut off", cut.fog(), 127);
   }
 
   // ---- the object
